@@ -25,8 +25,7 @@ public final class PatchVoices {
     private final char[] text = new char[MOST_CHARACTERS];
     private int length;
 
-    private final Patch patch = new Patch();
-    private final Reader reader = new Reader(patch);
+    private final Reader reader = new Reader();
     private final Program program = new Program();
     private boolean optimising;
     private int faulty = NONE;
@@ -78,6 +77,7 @@ public final class PatchVoices {
         if (place != NONE) {
             return -1 - place;
         }
+        Patch patch = reader.patch;
         patch.tieCords();
         int fault = patch.firstFault();
         if (fault != Patch.NO_FAULT) {
@@ -277,6 +277,8 @@ public final class PatchVoices {
         static final int WORD_LETTERS = 3;
         static final int ONE = 65536;
 
+        private static final int LEAST_VALUE = 0x80000000;
+        private static final int GREATEST_VALUE = 0x7FFFFFFF;
         private static final int COUNT = 20;
         private static final String WORDS =
                 "addsubmulmixlimcmpselknopitgatvelsawsqrtribownoienvlowdelhld";
@@ -339,7 +341,7 @@ public final class PatchVoices {
         }
 
         static int stopped(long exact) {
-            return (int) Math.max(Integer.MIN_VALUE, Math.min(Integer.MAX_VALUE, exact));
+            return (int) Math.max(LEAST_VALUE, Math.min(GREATEST_VALUE, exact));
         }
 
         static int waveValue(int kind, int phase) {
@@ -548,7 +550,7 @@ public final class PatchVoices {
         }
     }
 
-    /** Reads a text into a patch, one character after the other, and finds the place of its fault. */
+    /** Reads a text into a patch, character by character, or finds the place of its fault. */
     private static final class Reader {
         private static final int BEFORE_NAME = 0;
         private static final int IN_NAME = 1;
@@ -567,7 +569,7 @@ public final class PatchVoices {
         private static final int MOST_LETTERS = 4;
         private static final int MOST_DIGITS = 9;
 
-        private final Patch patch;
+        final Patch patch = new Patch();
         private int state;
         /** How many letters the name or word, or digits the number, has so far. */
         private int size;
@@ -575,11 +577,7 @@ public final class PatchVoices {
         private int kinds;
         private int sign;
 
-        Reader(Patch patch) {
-            this.patch = patch;
-        }
-
-        /** Answers the place of the text's fault, NONE when the text is a patch. */
+        /** Answers the place of the text's fault, NONE when the text is a patch: that is kept. */
         int read(char[] text, int length) {
             patch.clear();
             state = BEFORE_NAME;

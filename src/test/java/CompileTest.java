@@ -20,6 +20,7 @@ public final class CompileTest {
         tooMuch();
         loops();
         theFirstFaultInTurn();
+        theLongestTexts();
         namedTellsOfTheLatest();
         aFaultChangesNothing();
         compileIsSilent();
@@ -172,7 +173,6 @@ public final class CompileTest {
     private static void tooMuch() {
         fault(manyPits(24), 0, NONE);
         fault(manyPits(25), 5, 24);
-        fault(manyPits(36), 5, 24);
         fault("a=del(1,64);b=del(1,64);", 0, NONE);
         fault("a=del(1,64);b=del(1,64);c=pit();d=del(1,1);e=del(1,1);", 5, 3);
         fault("a=del(1,43);b=del(1,43);c=del(1,42);", 0, NONE);
@@ -205,6 +205,19 @@ public final class CompileTest {
         place(loop + much + wrong + loose + again, "?");
     }
 
+    private static void theLongestTexts() {
+        String statements = "a=pit();".repeat(37);
+        fault(statements, 3, 1);
+        fault(statements + "    ", 3, 1);
+        fault(statements + "abcd", -1 - 300, NONE);
+        place(statements + "b= ", "?");
+        fault(manyPits(36), 5, 24);
+        String names = manyPits(35);
+        fault(names + "zz=saw(zz);", 5, 24);
+        fault(names + "zz=saw(zy);", 2, 35);
+        fault(names + "zz=saw();", 4, 35);
+    }
+
     private static void namedTellsOfTheLatest() {
         PatchVoices x = new PatchVoices();
         Due.is("compile()", Due.compile(x, "a=pit();b=pit(1);"), 4);
@@ -225,7 +238,8 @@ public final class CompileTest {
         x.note(10, 1);
         x.run(3);
         x.optimise(false);
-        for (String text : new String[] {"", "a=pit();a=pit();", "a=saw(a);b=gat();", "a=pit(1);"}) {
+        String[] faulty = {"", "a=pit();a=pit();", "a=saw(a);b=gat();", "a=pit(1);"};
+        for (String text : faulty) {
             Due.compile(x, text);
             Due.is("steps() behind " + text, x.steps(), 2);
             Due.is("step(1, 7) behind " + text, x.step(1, 7), 3);

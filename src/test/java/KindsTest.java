@@ -16,7 +16,7 @@ public final class KindsTest {
         Due.end("KindsTest");
     }
 
-    /** The value of a plain kind of knobs 0 to 2, and of numbers alone, optimised, where they fit. */
+    /** The value of a plain kind of knobs, and of numbers alone, optimised, where they fit. */
     private static void plain(String word, int want, int... inputs) {
         StringBuilder text = new StringBuilder("x=kno(0);y=kno(1);z=kno(2);o=").append(word);
         String cords = "x,y,z".substring(0, 2 * inputs.length - 1);
@@ -207,6 +207,18 @@ public final class KindsTest {
         x.knob(0, 0);
         x.knob(3, MAX);
         Due.all("r great", levels(x, 4, 1), 0);
+        x.knob(0, 1);
+        x.knob(1, 3);
+        levels(x, 4, 1);
+        x.knob(0, 0);
+        x.knob(3, 2);
+        Due.all("an odd end", levels(x, 4, 3), 1, 0, 0);
+        x.knob(0, 1);
+        x.knob(1, 65535);
+        x.knob(2, 32767);
+        Due.all("one short", levels(x, 4, 1), 65535);
+        x.knob(1, 1);
+        Due.all("one short of each edge", levels(x, 4, 4), 65536, 32769, 32768, 32768);
     }
 
     private static void lows() {
@@ -254,7 +266,9 @@ public final class KindsTest {
         x.note(0, 1);
         x.run(1);
         Due.is("the first sample takes", x.tap(0, 2), 5);
-        int[][] rows = {{6, 1, 5}, {7, 0, 5}, {8, -1, 5}, {9, 3, 9}, {10, 4, 9}, {1, 0, 9}, {2, 1, 2}};
+        int[][] rows = {
+            {6, 1, 5}, {7, 0, 5}, {8, -1, 5}, {9, 3, 9}, {10, 4, 9}, {1, 0, 9}, {2, 1, 2}
+        };
         for (int[] row : rows) {
             x.knob(0, row[0]);
             x.knob(1, row[1]);

@@ -539,7 +539,8 @@ final class Model {
                 values[m] = plain(w.kind, in);
             } else if (w.kind < 11) {
                 int knob = w.kind == 7 ? knobs[in[0].intValueExact()] : 0;
-                values[m] = big(new int[] {knob, pitch, gate ? 65536 : 0, 512 * strength}[w.kind - 7]);
+                int[] given = {knob, pitch, gate ? 65536 : 0, 512 * strength};
+                values[m] = big(given[w.kind - 7]);
             } else if (w.kind == DEL) {
                 values[m] = ago(w, modules);
             } else {

@@ -1,6 +1,6 @@
 import java.util.Random;
 
-/** Runs of calls, drawn with fixed seeds, on the program and on the model: the same answers are due. */
+/** Runs of calls, drawn with fixed seeds: program and model have to answer the same. */
 public final class ModelTest {
     private static final int OBJECTS = 1000;
     private static final int CALLS = 512;
@@ -82,7 +82,8 @@ public final class ModelTest {
         same(seed, "steps()", program::steps, model::steps);
         same(seed, "slots()", program::slots, model::slots);
         for (int looks = pick(5, 20, 120); looks > 0 && model.steps() > 0; looks--) {
-            int i = random.nextInt(20) == 0 ? pick(-1, model.steps()) : random.nextInt(model.steps());
+            int steps = model.steps();
+            int i = random.nextInt(20) == 0 ? pick(-1, steps) : random.nextInt(steps);
             int what = random.nextInt(20) == 0 ? pick(-1, 11) : random.nextInt(11);
             same(seed, "step(" + i + ", " + what + ")",
                     () -> program.step(i, what), () -> model.step(i, what));

@@ -21,6 +21,9 @@ public final class ProgramTest {
         slotsAreUsedAgain();
         theOutputKeepsItsSlot();
         putsAreLaterSteps();
+        asManySlotsAsModules();
+        twentyFourModules();
+        programsLeaveNothingBehind();
         Due.end("ProgramTest");
     }
 
@@ -235,6 +238,77 @@ public final class ProgramTest {
         Due.is("slots()", x.slots(), 2);
         x = Due.playing("p=pit();a=del(b,1);b=saw(a);q=pit();", true);
         steps("what stands for it", x, row(8, 0, 0));
+    }
+
+    /** A ring of 24 dels: each put reads a result, so that no slot is free before the end. */
+    private static void asManySlotsAsModules() {
+        StringBuilder text = new StringBuilder();
+        for (int m = 0; m < 24; m++) {
+            char next = (char) ('a' + (m + 1) % 24);
+            text.append((char) ('a' + m)).append("=del(").append(next).append(",1);");
+        }
+        for (boolean optimised : new boolean[] {false, true}) {
+            PatchVoices x = Due.playing(text.toString(), optimised);
+            Due.is("steps() of the ring", x.steps(), 48);
+            Due.is("slots() of the ring", x.slots(), 24);
+            for (int m = 0; m < 24; m++) {
+                Due.is("slot of " + m, x.step(m, 2), m);
+                Due.is("slot that the put reads", x.step(24 + m, 3), (m + 1) % 24);
+            }
+            Due.thrown("step(48, 0)", IndexOutOfBoundsException.class, () -> x.step(48, 0));
+            x.note(1, 1);
+            Due.all("samples", Due.samples(x, 3), 0, 0, 0);
+        }
+    }
+
+    private static void twentyFourModules() {
+        StringBuilder chain = new StringBuilder();
+        StringBuilder same = new StringBuilder();
+        for (int m = 0; m < 24; m++) {
+            char name = (char) ('a' + m);
+            // each one reads the one behind it, so that the order goes from the last to the first
+            String backwards = m == 23 ? "=pit();" : "=sub(" + (char) (name + 1) + ",1);";
+            chain.append(name).append(backwards);
+            same.append(name).append(m == 23 ? "=add(v,w);" : "=vel();");
+        }
+        PatchVoices x = Due.playing(chain.toString(), true);
+        steps("only the last is needed", x, row(8, 23, 0));
+        x = Due.playing(chain.toString(), false);
+        Due.is("steps() of the chain", x.steps(), 24);
+        for (int i = 0; i < 24; i++) {
+            Due.is("order of the chain", x.step(i, 1), 23 - i);
+        }
+        // the output's result stays in slot 0
+        Due.is("slots() of the chain", x.slots(), 2);
+        x.note(100, 1);
+        x.run(1);
+        Due.is("the end of the chain", x.tap(0, 0), 77);
+        x = Due.playing(same.toString(), true);
+        steps("all but the last are one", x, row(10, 0, 0), row(0, 23, 0, 0, 0));
+    }
+
+    private static void programsLeaveNothingBehind() {
+        PatchVoices x = new PatchVoices();
+        String[] texts = {
+            "a=gat();b=vel();c=pit();d=mix(a,b,c);e=lim(d,-7,9);f=env(e,d,c,-9);g=low(a,b,f);",
+            "a=pit();b=saw(a);",
+            "b=noi();a=add(3,b);c=del(a,2);",
+            "a=add(7,8);",
+        };
+        for (boolean optimised : new boolean[] {false, true, false}) {
+            x.optimise(optimised);
+            for (String text : texts) {
+                Due.is("compile()", Due.compile(x, text), 0);
+                PatchVoices fresh = Due.playing(text, optimised);
+                Due.is("steps()", x.steps(), fresh.steps());
+                Due.is("slots()", x.slots(), fresh.slots());
+                for (int i = 0; i < fresh.steps(); i++) {
+                    for (int what = 0; what <= 10; what++) {
+                        Due.is("step() of " + text, x.step(i, what), fresh.step(i, what));
+                    }
+                }
+            }
+        }
     }
 
     private static void putsAreLaterSteps() {

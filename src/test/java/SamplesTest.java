@@ -77,7 +77,8 @@ public final class SamplesTest {
     }
 
     private static void tapRefuses() {
-        PatchVoices x = Due.playing("a=pit();b=pit();c=add(1,2);d=add(a,c);e=noi();f=add(d,b);", true);
+        PatchVoices x = Due.playing(
+                "a=pit();b=pit();c=add(1,2);d=add(a,c);e=noi();f=add(d,b);", true);
         x.voices(2);
         Due.thrown("not taken", NoSuchElementException.class, () -> x.tap(0, 0));
         x.note(7, 1);

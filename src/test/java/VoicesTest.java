@@ -7,6 +7,7 @@ public final class VoicesTest {
         notesTakeTheOldestWhenAllAreActive();
         notesTakeTheLongestQuiet();
         quietVoicesTie();
+        quietBeginsAnew();
         notesRefuse();
         notesBeginAnew();
         offRefuses();
@@ -113,6 +114,23 @@ public final class VoicesTest {
         for (int want : new int[] {1, 3, 0, 2}) {
             Due.is("the least of several", x.note(1, 1), want);
         }
+    }
+
+    private static void quietBeginsAnew() {
+        PatchVoices x = Due.playing("a=gat();", false);
+        x.voices(2);
+        x.note(1, 1);
+        x.off(0);
+        x.run(64);
+        x.run(64);
+        x.note(1, 1);
+        Due.is("0 again", x.note(1, 1), 0);
+        x.off(1);
+        x.run(2);
+        x.off(0);
+        x.run(20);
+        // 0 was quiet for long before, but 1 is now for two samples more
+        Due.is("quiet since the latest taking", x.note(1, 1), 1);
     }
 
     private static void notesRefuse() {
