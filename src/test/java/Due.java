@@ -4,15 +4,30 @@ import java.nio.charset.StandardCharsets;
 final class Due {
     private static int looked = 0;
     private static int wrong = 0;
+    private static String sentence = "";
+
+    /** A call whose answer counts as a number, a boolean as 1 or 0. */
+    interface Call {
+        long ask(PatchVoices x);
+    }
 
     private Due() {}
+
+    /** The sentence of the document that the answers from here on are due by. */
+    static void by(String words) {
+        sentence = words;
+    }
 
     static void is(String what, long got, long want) {
         looked++;
         if (got != want) {
-            wrong++;
-            System.out.println(what + " answered " + got + ", due is " + want);
+            tellWrong(what + " answered " + got + ", due is " + want);
         }
+    }
+
+    private static void tellWrong(String what) {
+        wrong++;
+        System.out.println(what + (sentence.isEmpty() ? "" : " by: " + sentence));
     }
 
     static void is(String what, boolean got, boolean want) {
@@ -35,8 +50,23 @@ final class Due {
             got = e.getClass().getName();
         }
         if (!got.equals(want.getName())) {
-            wrong++;
-            System.out.println(what + " threw " + got + ", due is " + want.getName());
+            tellWrong(what + " threw " + got + ", due is " + want.getName());
+        }
+    }
+
+    static void same(String what, String got, String want) {
+        looked++;
+        if (!got.equals(want)) {
+            tellWrong(what + " answered " + got + ", due is " + want);
+        }
+    }
+
+    /** What a call answers or throws, as a text. */
+    static String answer(PatchVoices x, Call call) {
+        try {
+            return Long.toString(call.ask(x));
+        } catch (RuntimeException e) {
+            return e.getClass().getSimpleName();
         }
     }
 
