@@ -149,6 +149,9 @@ public final class FaultEdgesTest {
         fault(pits(25), 5, 24);
         fault(pits(26), 5, 24);
         fault(pits(25) + "aa=del(1,64);bb=del(1,64);cc=del(1,1);", 5, 24);
+        // 300 characters: 37 statements of eight, and the beginning of one more
+        fault("a=pit();".repeat(37) + "abcd", -301, NONE);
+        fault("a=pit();".repeat(37) + "    ", 3, 1);
         PatchVoices x = new PatchVoices();
         x.optimise(true);
         Due.is("modules that are not needed count", Due.compile(x, pits(25)), 5);

@@ -251,6 +251,10 @@ public final class ProgramEdgesTest {
         }
         PatchVoices x = Due.playing(dels.toString(), true);
         Due.is("as many steps as there may be", x.steps(), 48);
+        // each put reads the result of a del, so that none leaves its slot
+        Due.is("as many slots as there may be", x.slots(), 24);
+        Due.is("the last slot", x.step(23, 2), 23);
+        Due.is("the slot that the last put reads", x.step(47, 3), 22);
         Due.is("the last step", x.step(47, 1), 23);
         Due.is("the last step's kind", x.step(47, 0), PUT);
         Due.is("the last step before the puts", x.step(23, 0), 18);

@@ -12,6 +12,7 @@ public final class SampleEdgesTest {
         theLeastAndTheGreatestSample();
         addedUpExactly();
         voicesThatAreTaken();
+        theLastModuleIsTheOutput();
         samplesOfTheLatestRun();
         silentSince();
         tapsOfVoicesThatThereAre();
@@ -179,6 +180,27 @@ public final class SampleEdgesTest {
         Due.all("two", Due.samples(y, 1), 14);
     }
 
+    private static void theLastModuleIsTheOutput() {
+        Due.by("Each statement makes a MODULE, 0, 1, .. in their order; the last one is the"
+                + " OUTPUT");
+        for (int modules = 1; modules <= 24; modules++) {
+            StringBuilder text = new StringBuilder();
+            for (int m = 0; m < modules; m++) {
+                // names that go down, so that the order of names is not that of modules
+                text.append((char) ('z' - m)).append("=add(").append(m).append(",9);");
+            }
+            for (boolean optimised : new boolean[] {false, true}) {
+                PatchVoices x = Due.playing(text.toString(), optimised);
+                x.note(1, 1);
+                Due.all("the last of " + modules, Due.samples(x, 1), 8 + modules);
+            }
+        }
+        // last by the text, not by the order
+        PatchVoices x = Due.playing("a=add(c,1);b=add(a,1);c=pit();", false);
+        x.note(7, 1);
+        Due.all("first in the order", Due.samples(x, 1), 7);
+    }
+
     private static void samplesOfTheLatestRun() {
         Due.by("IndexOutOfBoundsException: it made none such");
         PatchVoices x = Due.playing("s=saw(65536);", false);
@@ -229,6 +251,9 @@ public final class SampleEdgesTest {
                 int sample = i;
                 Due.thrown("out(" + i + ")", IndexOutOfBoundsException.class, () -> x.out(sample));
             }
+            Due.is("active(0)", x.active(0), false);
+            Due.thrown("off(0)", IllegalStateException.class, () -> x.off(0));
+            Due.thrown("tap(0, 0)", NoSuchElementException.class, () -> x.tap(0, 0));
             x.run(1);
             Due.is("out(0) of the next run()", x.out(0), 0);
             Due.thrown("out(1)", IndexOutOfBoundsException.class, () -> x.out(1));

@@ -299,6 +299,24 @@ public final class VoiceEdgesTest {
         actives("0 is quiet, 1 for 15 samples", z, false, false);
         z.run(0);
         notes("the longest quiet", z, 1);
+        notQuietSinceTheNote();
+    }
+
+    /** How long a voice was not active before it was taken again does not count. */
+    private static void notQuietSinceTheNote() {
+        PatchVoices x = byPitch(10, 90);
+        x.knob(0, 10);
+        x.off(0);
+        x.run(64);
+        x.run(64);
+        notes("0 is quiet", x, 0);
+        x.off(1);
+        x.knob(0, 90);
+        x.run(1);
+        x.off(0);
+        x.run(16);
+        actives("1 for a sample more than 0", x, false, false);
+        notes("the longest quiet", x, 1, 0);
     }
 
     private static void ofSeveralTheLeast() {
