@@ -62,6 +62,10 @@ public final class SampleEdgesTest {
         for (int n : new int[] {0, 1, 64}) {
             Due.thrown("run(" + n + ")", IllegalStateException.class, () -> x.run(n));
         }
+        // of two exceptions that are due at once the first one that the document names
+        for (int n : new int[] {-1, 65}) {
+            Due.thrown("run(" + n + ")", IllegalArgumentException.class, () -> x.run(n));
+        }
         Due.type(x, "a=pit(1);");
         Due.thrown("with a text", IllegalStateException.class, () -> x.run(1));
         x.compile();

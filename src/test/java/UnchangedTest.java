@@ -98,6 +98,9 @@ public final class UnchangedTest {
                 + "e=env(f,9000,t,900);d=del(s,3);n=noi();o=mix(d,k,e);", true);
         x.voices(voices);
         x.knob(1, 300);
+        x.knob(0, 1);
+        x.knob(2, 2);
+        x.knob(3, 3);
         x.note(70000000, 100);
         x.run(5);
         x.note(-90000000, 1);
@@ -305,6 +308,7 @@ public final class UnchangedTest {
         tell(told, x, y -> y.compile());
         // one step if it is optimising, else two
         tell(told, x, y -> y.steps());
+        tellKnobs(told, x);
         return told;
     }
 
@@ -336,6 +340,17 @@ public final class UnchangedTest {
         for (int i = 0; i <= 18; i++) {
             int sample = i;
             tell(told, x, y -> y.out(sample));
+        }
+    }
+
+    private static void tellKnobs(List<String> told, PatchVoices x) {
+        x.optimise(false);
+        tell(told, x, y -> Due.compile(y, "a=kno(0);b=kno(1);c=kno(2);d=kno(3);"));
+        tell(told, x, y -> y.note(1, 1));
+        tell(told, x, y -> nothing(() -> y.run(1)));
+        for (int k = 0; k < 4; k++) {
+            int knob = k;
+            tell(told, x, y -> y.tap(0, knob));
         }
     }
 

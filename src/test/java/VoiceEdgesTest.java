@@ -540,16 +540,21 @@ public final class VoiceEdgesTest {
         knobsAre("the next sample", x, 0, 6, 0, 0);
         x.knob(3, 7);
         Due.is("out(0) is as before", x.out(0), 0);
+        x.knob(0, -4);
+        x.knob(2, 8);
         x.note(1, 1);
-        knobsAre("a note leaves knobs", x, 0, 6, 0, 7);
+        knobsAre("a note leaves knobs", x, -4, 6, 8, 7);
         x.reset();
         x.note(1, 1);
-        knobsAre("reset() leaves knobs", x, 0, 6, 0, 7);
+        knobsAre("reset() leaves knobs", x, -4, 6, 8, 7);
         x.voices(3);
         x.note(1, 1);
-        knobsAre("voices() leaves knobs", x, 0, 6, 0, 7);
+        knobsAre("voices() leaves knobs", x, -4, 6, 8, 7);
         x.compile();
         x.note(1, 1);
-        knobsAre("compile() leaves knobs", x, 0, 6, 0, 7);
+        knobsAre("compile() leaves knobs", x, -4, 6, 8, 7);
+        x.erase();
+        x.compile();
+        knobsAre("a fault leaves knobs", x, -4, 6, 8, 7);
     }
 }
